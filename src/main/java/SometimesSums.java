@@ -1136,17 +1136,23 @@ public final class SometimesSums {
                 noteWeighing(group, level);
                 return;
             }
-            if (level + 1 >= LEVELS) {
-                return;
-            }
             int place = level * MOST_THINGS + thing;
             for (int weight = lows[place]; weight <= highs[place]; weight++) {
-                copyRanges(level);
-                lows[place + MOST_THINGS] = weight;
-                highs[place + MOST_THINGS] = weight;
-                if (narrow(level + 1)) {
-                    weigh(group, level + 1);
-                }
+                weighWith(group, level, thing, weight);
+            }
+        }
+
+        /** Goes through those weighings of a group that give a thing a weight. */
+        private void weighWith(int group, int level, int thing, int weight) {
+            int next = level + 1;
+            if (next >= LEVELS) {
+                return;
+            }
+            copyRanges(level);
+            lows[next * MOST_THINGS + thing] = weight;
+            highs[next * MOST_THINGS + thing] = weight;
+            if (narrow(next)) {
+                weigh(group, next);
             }
         }
 

@@ -775,6 +775,25 @@ public final class PromisesTest {
         Due.is("range of the star's middle", star.range(6, 2, true), 6);
         Due.is("weight of the last one", star.weight(6, 10), 0);
         Due.is("weighings(1) of the star", star.weighings(1), 34);
+        SometimesSums crowded = crowded();
+        Due.is("nearly all sums are there", crowded.count(1), 63);
+        Due.is("11 is free", crowded.weighings(1), 2);
+        Runs.read(crowded, "11+11=11");
+        Due.is("the last sum of all binds it", crowded.weighings(1), 1);
+    }
+
+    /** 12 things, of which all but 1 and 11 weigh nothing, with all sums but 1 + 1, 1 + 11 and 11 + 11. */
+    private static SometimesSums crowded() {
+        SometimesSums x = Runs.withThings(12);
+        for (int one = 1; one < 11; one++) {
+            for (int other = 2; other < 12; other++) {
+                boolean free = one == 1 && other == 11;
+                if (!free) {
+                    x.setSum(one, other, other == 11 ? 11 : one == 1 ? 1 : 0);
+                }
+            }
+        }
+        return x;
     }
 
     private static void count() {
