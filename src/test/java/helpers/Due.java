@@ -2,15 +2,29 @@
 final class Due {
     private static int wrong = 0;
     private static int checked = 0;
+    private static String sentence = "";
 
     private Due() {
+    }
+
+    /** What the answers are due by, from here on: it is printed with each that is wrong. */
+    static void by(String words) {
+        sentence = words.isEmpty() ? "" : "[" + words + "] ";
     }
 
     static void is(String what, long got, long want) {
         checked++;
         if (got != want) {
             wrong++;
-            System.out.println(what + " answered " + got + ", due is " + want);
+            System.out.println(sentence + what + " answered " + got + ", due is " + want);
+        }
+    }
+
+    static void same(String what, String got, String want) {
+        checked++;
+        if (!got.equals(want)) {
+            wrong++;
+            System.out.println(sentence + what + ": " + got + ", due is: " + want);
         }
     }
 

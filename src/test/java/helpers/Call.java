@@ -1,0 +1,4 @@
+/** A call of an object, and what it answers. */
+interface Call {
+    int of(SometimesSums x);
+}
