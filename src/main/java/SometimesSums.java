@@ -491,10 +491,8 @@ public final class SometimesSums {
             }
         }
 
+        /** Not for the set of no sign: its sums are those with 0, which are there already. */
         private static int thingOfSet(int set, int all) {
-            if (set == 0) {
-                return NOTHING;
-            }
             return set == all ? WHOLE : set + 1;
         }
 

@@ -30,6 +30,7 @@ public final class SentencesOfAnswersTest {
         range();
         count();
         countsOfEmptyAndFull();
+        answersAfterActs();
         for (int promise = 11; promise <= 25; promise++) {
             Doc.isAllNamed("Promise " + promise);
         }
@@ -438,6 +439,7 @@ public final class SentencesOfAnswersTest {
         Due.is("6 to the 4", Runs.withThings(6).weighings(5), 1000);
         Due.is("7 to the 10", Runs.withThings(12).weighings(6), 1000);
         thousand();
+        besideSureWeights();
         Doc.says("Promise 22", "BAD_VALUE.");
         for (int k : NO_WHOLES) {
             Due.is("weighings(" + k + ")", Runs.chain(1).weighings(k), BAD_VALUE);
@@ -463,6 +465,24 @@ public final class SentencesOfAnswersTest {
         // 1 + 16 + 81 and so on, up to k + 1 to the 4: 3, 5, 7 and 9 weigh as much as 2 leaves, each.
         Due.is("one group of 4676", Runs.withSums(11, 2, 3, 4, 2, 5, 6, 2, 7, 8, 2, 9, 10).weighings(6), 1000);
         Due.is("one group of 979", Runs.withSums(11, 2, 3, 4, 2, 5, 6, 2, 7, 8, 2, 9, 10).weighings(4), 979);
+    }
+
+    /** Sums of three things, one of which has the same weight in all weighings. */
+    private static void besideSureWeights() {
+        // 5 is a half of 6; 3 weighs as much and 3 more, so that 2 or 7 is 0 to 3; the other things are free.
+        Due.is("2 + 5 = 3", Runs.withSums(6, 5, 5, 1, 2, 5, 3).weighings(6), 4 * 7);
+        Due.is("5 + 7 = 3, where 2 and 4 are nothing", Runs.withSums(8, 5, 5, 1, 5, 7, 3, 2, 2, 2, 4, 4, 4).weighings(6), 4 * 7);
+        Due.is("2 + 3 = 5", Runs.withSums(6, 5, 5, 1, 2, 3, 5).weighings(6), 4 * 7);
+        Due.is("4 + 4 = 5, of 3", Runs.withSums(6, 5, 5, 1, 4, 4, 5).weighings(6), 0);
+        Due.is("2 + 4 = 3, where 4 is nothing", Runs.withSums(5, 4, 4, 4, 2, 4, 3).weighings(6), 7);
+        Due.is("4 + 3 = 6, where 4 is nothing", Runs.withSums(7, 4, 4, 4, 3, 4, 6).weighings(6), 7 * 7 * 7);
+        Due.is("3 = 2 + 4 = 2 + 5 and 4 + 5 = 1", Runs.withSums(6, 2, 4, 3, 2, 5, 3, 4, 5, 1).weighings(6), 4);
+        // 2 is what twice 3 leaves of k.
+        SometimesSums odd = Runs.withSums(6, 3, 3, 4, 4, 2, 1);
+        Due.is("the least odd weight", odd.range(5, 2, false), 1);
+        Due.is("the greatest odd weight", odd.range(5, 2, true), 5);
+        Due.is("the least even weight", odd.range(6, 2, false), 0);
+        Due.is("the greatest even weight", odd.range(6, 2, true), 6);
     }
 
     private static void weight() {
@@ -531,6 +551,10 @@ public final class SentencesOfAnswersTest {
         Due.is("the greatest one by 5", x.range(5, 4, true), 5);
         Due.is("the least one of 11 by 5", x.range(5, 11, false), 2);
         Due.is("the greatest one of 2 by 5", x.range(5, 2, true), 1);
+        // By 1, 3 is 2 and 4 together, and 2 is the rest of it: a 2 of 1 would leave nothing for 3.
+        SometimesSums bound = Runs.withSums(5, 2, 3, 1, 2, 4, 3);
+        Due.is("the greatest one is 0", bound.range(1, 2, true), 0);
+        Due.is("the least one is k", bound.range(1, 3, false), 1);
         // The least weight may be one of a later weighing, the greatest one of the first.
         Due.is("the least is not the first", Runs.withSums(4, 2, 3, 1).range(6, 3, false), 0);
         Due.is("the greatest is the first", Runs.withSums(4, 2, 3, 1).range(6, 3, true), 6);
@@ -589,6 +613,8 @@ public final class SentencesOfAnswersTest {
         Due.is("of sets", Runs.sets(3).count(5), 255);
         Due.is("of a chain", Runs.chain(11).count(5), 3);
         Due.is("of twelve things apart", Runs.withThings(12).count(5), 3);
+        Due.is("without 0, which has the part 2 in common with 1", Runs.withSums(4, 2, 3, 0, 2, 2, 1).count(5), 0);
+        Due.is("with 0, for all its parts", Runs.withSums(4, 2, 3, 0).count(5), 3);
         Due.is("of two and two", Runs.withSums(12, 2, 11, 1, 3, 10, 1, 4, 4, 1).count(5), 3 + 4 + 8 + 1024 + 2048);
         Doc.says("Promise 25", "6 for pairs of different things that do not go together,");
         Due.is("none", Runs.chain(11).count(6), 0);
@@ -626,5 +652,66 @@ public final class SentencesOfAnswersTest {
         for (int what : new int[] {LEAST, -10, -2, -1, 10, 11, 32, 256, 265, 1 << 16, MOST}) {
             Due.is("count(" + what + ")", x.count(what), BAD_VALUE);
         }
+    }
+
+    /** What is told is told of the table as it is then, whatever was asked of an earlier one. */
+    private static void answersAfterActs() {
+        Doc.says("Promise 25", "Returns the number;");
+        Start[] tables = {
+            () -> Runs.withSums(6, 2, 3, 0, 2, 2, 1, 1, 4, 5, 3, 3, 3), () -> Runs.chain(4), () -> Runs.withThings(4),
+            () -> Runs.withSums(5, 3, 3, 1, 2, 3, 4), () -> Runs.sets(2), SometimesSums::new,
+        };
+        for (int first = 0; first < tables.length; first++) {
+            for (int then = 0; then < tables.length; then++) {
+                String due = answers(tables[then].make());
+                SometimesSums x = tables[then].make();
+                x.keep();
+                become(x, tables[first].make());
+                answers(x);
+                x.restore();
+                Due.same("the table " + then + " after " + first, answers(x), due);
+            }
+        }
+        SometimesSums x = Runs.withSums(5, 2, 3, 4, 4, 4, 1);
+        x.weighings(6);
+        x.clearSum(2, 3);
+        Due.is("a sum that is gone binds no weight", x.range(6, 2, true), 6);
+        x.clearSum(4, 4);
+        Due.is("nor does the other", x.weighings(6), 343);
+        x.setSum(2, 2, 0);
+        Due.is("2 is a part of 0", x.thing(0, 1), 5);
+        x.clearSum(2, 2);
+        Due.is("and no longer", x.thing(0, 1), 1);
+    }
+
+    private static void become(SometimesSums x, SometimesSums other) {
+        x.take(0, 1);
+        while (x.count(0) < other.count(0)) {
+            x.addThing();
+        }
+        for (int a = 1; a < other.count(0); a++) {
+            for (int b = a; b < other.count(0); b++) {
+                if (other.sum(a, b) != NONE) {
+                    x.setSum(a, b, other.sum(a, b));
+                }
+            }
+        }
+    }
+
+    private static String answers(SometimesSums x) {
+        StringBuilder all = new StringBuilder();
+        int things = x.count(0);
+        for (int thing = 0; thing < things; thing++) {
+            for (int what = 0; what < 8; what++) {
+                all.append(x.thing(thing, what)).append(' ');
+            }
+            for (int k = 5; k <= 6; k++) {
+                all.append(x.weight(k, thing)).append(' ').append(x.range(k, thing, false)).append(' ').append(x.range(k, thing, true)).append("; ");
+            }
+        }
+        for (int what = 0; what < 8; what++) {
+            all.append(x.count(what)).append(' ').append(x.broken(what / 2)).append(' ').append(x.block(what / 2, what % 2)).append("; ");
+        }
+        return all.append(x.weighings(5)).append(' ').append(x.weighings(6)).toString();
     }
 }

@@ -404,6 +404,7 @@ public final class SentencesOfTermsTest {
         Due.is("11 is a part of both", Runs.withSums(12, 2, 3, 1, 11, 10, 2, 11, 9, 3).thing(2, 4), 0);
         Due.is("1 is a part of both", Runs.withSums(4, 2, 3, 1, 1, 1, 2, 1, 3, 3).thing(2, 4), 0);
         Due.is("only the least rest counts", Runs.withSums(5, 2, 3, 1, 2, 4, 1, 2, 2, 4).thing(2, 4), 1);
+        Due.is("0 is, for all its parts", Runs.withSums(4, 2, 3, 0).thing(0, 4), 1);
         Due.is("0 has a part in common with 1", Runs.withSums(4, 2, 3, 0, 2, 2, 1).thing(0, 4), 0);
         Doc.says(TOGETHER, "(a thing without a rest is not).");
         Due.is("2 has none", Runs.withSums(3).thing(2, 4), 0);
