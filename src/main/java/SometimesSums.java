@@ -1057,7 +1057,9 @@ public final class SometimesSums {
                     int one = start + ones[i];
                     int other = start + others[i];
                     int sum = start + sums[i];
-                    changed |= narrowBySum(one, other, sum);
+                    if (narrowBySum(one, other, sum)) {
+                        changed = true;
+                    }
                     if (isEmpty(one) || isEmpty(other) || isEmpty(sum)) {
                         return false;
                     }
@@ -1068,10 +1070,14 @@ public final class SometimesSums {
 
         private boolean narrowBySum(int one, int other, int sum) {
             boolean changed = limit(sum, lows[one] + lows[other], highs[one] + highs[other]);
-            changed |= limit(one, lows[sum] - highs[other], highs[sum] - lows[other]);
-            changed |= limit(other, lows[sum] - highs[one], highs[sum] - lows[one]);
-            if (one == other) {
-                changed |= limit(one, (lows[sum] + 1) / 2, highs[sum] / 2);
+            if (limit(one, lows[sum] - highs[other], highs[sum] - lows[other])) {
+                changed = true;
+            }
+            if (limit(other, lows[sum] - highs[one], highs[sum] - lows[one])) {
+                changed = true;
+            }
+            if (one == other && limit(one, (lows[sum] + 1) / 2, highs[sum] / 2)) {
+                changed = true;
             }
             return changed;
         }

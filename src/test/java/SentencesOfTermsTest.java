@@ -29,6 +29,7 @@ public final class SentencesOfTermsTest {
         history();
         errors();
         orderOfChecks();
+        aroundThePromises();
         Doc.isAllNamed(THINGS, LAWS, TOGETHER, WEIGHTS, BUILT_IN, TEXTS, HISTORY, ERRORS);
         Due.end();
     }
@@ -45,6 +46,35 @@ public final class SentencesOfTermsTest {
             y.type('2');
         }
         Due.is("the 512th call", y.clearText(), 60);
+        Doc.demandsNothing("What it is", "what later calls answer is free.");
+        // LANGUAGE.md's rule 7 still binds: a later call may answer what it likes, but throws nothing.
+        for (int call = 513; call < 2000; call++) {
+            y.addThing();
+            y.type('2');
+            y.readSums();
+        }
+    }
+
+    /** What the promises below tell in full, and what the document leaves free. */
+    private static void aroundThePromises() {
+        Doc.demandsNothing("What it is", "Things that can be added to one another only sometimes: ");
+        String[] parts = {
+            "tables of sums,", "the laws that they have to keep and the first place where one is broken,",
+            "parts and differences,", "rests up to the whole,", "how often a thing can be added to itself,",
+            "smallest parts,", "things that go together,", "blocks of them,", "weights that add up,", "sharp things,",
+            "tables that are built in,", "glued together, multiplied and turned,",
+            "sums that are read from texts with the places of faults,", "undo and a snapshot.",
+        };
+        for (String part : parts) {
+            Doc.demandsNothing("What it is", part);
+        }
+        String free = "Not promised";
+        Doc.demandsNothing(free, "How the state is held inside the object is free, as are the speed of each call, "
+            + "the text of toString and the behaviour of equals and hashCode.");
+        Doc.demandsNothing(free, "Use of one object from several threads at once is not promised to be safe.");
+        Doc.demandsNothing(free, "Nothing is promised beyond the answers and state changes described above, "
+            + "and nothing about an object after its 512th call.");
+        Doc.isAllNamed("What it is", "The public face", free);
     }
 
     // ---- THINGS AND SUMS
